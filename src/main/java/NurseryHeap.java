@@ -66,7 +66,6 @@ public final class NurseryHeap {
     private static final int EVER_MINORS = 1;
     private static final int EVER_MAJORS = 2;
     private static final int EVER_MOVED = 3;
-    private static final int EVER_GONE = 5;
     private static final int TALLIES = 8;
 
     // Counts of one collection, in the order in which would() tells them.
@@ -659,7 +658,7 @@ public final class NurseryHeap {
             return isSlot(slot) ? number[slot] : 0;
         }
 
-        // These test the slot themselves, without isSlot: collections call them eight calls deep, and no call goes deeper.
+        // These test the slot themselves, without isSlot: collections call them at the deepest that calls may go.
 
         int cells(int slot) {
             return slot >= 0 && slot < objects ? HEAD_CELLS + size[slot] : 0;
