@@ -72,6 +72,10 @@ public final class BoundaryTest {
             unchanged(row.substring(10), row.charAt(8));
         } else if (row.startsWith("apart ")) {
             unchanged(row.substring(6), '-');
+        } else if (row.startsWith("undone ")) {
+            undone(row.substring(7));
+        } else if (row.startsWith("backed ")) {
+            backed(row.substring(7));
         } else if (row.indexOf('"') >= 0) {
             runText(row);
         } else {
@@ -132,7 +136,7 @@ public final class BoundaryTest {
 
     private void runCall(String row) {
         int equal = row.indexOf(" = ");
-        String call = equal < 0 ? row : row.substring(0, equal).trim();
+        String call = callOf(row);
         done.add(call);
         long got = calls.make(call);
         if (equal >= 0) {
@@ -146,14 +150,7 @@ public final class BoundaryTest {
 
     /** A call that changes nothing but STATUS: objects with and without it are compared by all that the face shows. */
     private void unchanged(String row, char status) {
-        String call = row.substring(0, row.indexOf(" = ")).trim();
-        int room = Calls.MOST - done.size() - 1;
-        for (int from = 0; from < quiet.size(); from += room) {
-            alikeBehind(call, quiet.subList(from, Math.min(quiet.size(), from + room)));
-        }
-        for (List<String> looks : loud) {
-            alikeBehind(call, looks.subList(0, Math.min(looks.size(), room)));
-        }
+        alikeBehind(List.of(), List.of(callOf(row)));
         long[] before = new long[4];
         for (int what = 0; what < 4; what++) {
             before[what] = calls.make("status(" + what + ")");
@@ -161,23 +158,57 @@ public final class BoundaryTest {
         runCall(row);
         for (int what = 0; what < 4; what++) {
             long want = before[what] + (status == '0' + what ? 1 : 0);
-            compare("status(" + what + ") behind " + call, calls.make("status(" + what + ")"), want);
+            compare("status(" + what + ") behind " + callOf(row), calls.make("status(" + what + ")"), want);
         }
     }
 
-    private void alikeBehind(String call, List<String> looks) {
-        Calls without = again();
-        Calls with = again();
-        with.make(call);
+    /** One ACT that is UNDONE: all is as it was. */
+    private void undone(String row) {
+        alikeBehind(List.of(), List.of(callOf(row), "undo()"));
+        runCall(row);
+        runCall("undo()");
+    }
+
+    /** ACTS behind an IMAGE, then BACK: all is as it was when the IMAGE was taken. */
+    private void backed(String row) {
+        List<String> with = new ArrayList<>(List.of("image()"));
+        for (String part : row.split(";")) {
+            with.add(part.trim());
+        }
+        with.add("back()");
+        alikeBehind(List.of("image()", "back()"), with);
+    }
+
+    private static String callOf(String row) {
+        int equal = row.indexOf(" = ");
+        return equal < 0 ? row.trim() : row.substring(0, equal).trim();
+    }
+
+    private void alikeBehind(List<String> some, List<String> others) {
+        int room = Calls.MOST - done.size() - Math.max(some.size(), others.size());
+        for (int from = 0; from < quiet.size(); from += room) {
+            alikeBehind(some, others, quiet.subList(from, Math.min(quiet.size(), from + room)));
+        }
+        for (List<String> looks : loud) {
+            alikeBehind(some, others, looks.subList(0, Math.min(looks.size(), room)));
+        }
+    }
+
+    private void alikeBehind(List<String> some, List<String> others, List<String> looks) {
+        Calls without = again(some);
+        Calls with = again(others);
         for (String look : looks) {
             long got = with.make(look);
-            compare(look + " behind " + call, got, without.make(look));
+            compare(look + " behind " + others, got, without.make(look));
         }
     }
 
-    private Calls again() {
+    private Calls again(List<String> more) {
         Calls same = new Calls();
         for (String call : done) {
+            same.make(call);
+        }
+        for (String call : more) {
             same.make(call);
         }
         return same;

@@ -54,7 +54,7 @@ final class Looks {
         return calls;
     }
 
-    /** Each list is asked of an object of its own: what can be UNDONE, the IMAGE, what the TAPE is good for. */
+    /** Each list is asked of an object of its own: what can be UNDONE, the IMAGE, the TAPE, how it goes on. */
     static List<List<String>> loud() {
         List<List<String>> all = new ArrayList<>();
         List<String> back = new ArrayList<>();
@@ -70,6 +70,7 @@ final class Looks {
         rows(image, "root", 0, 7);
         rows(image, "count", 0, 4);
         all.add(image);
+        all.add(goingOn());
         for (int sort = 0; sort < 2; sort++) {
             List<String> taken = new ArrayList<>();
             taken.add("text(" + sort + ")");
@@ -79,6 +80,26 @@ final class Looks {
             all.add(taken);
         }
         return all;
+    }
+
+    /** Acts of each sort: what is held where nobody looks now would be seen behind them. */
+    private static List<String> goingOn() {
+        List<String> calls = new ArrayList<>();
+        String[] acts = {"make(6, 1, 2, 7)", "make(7, 2, 1, 8)", "link(6, 0, 7)", "link(6, 1, 0)", "drop(7)", "minor()",
+            "make(7, 0, 3, 9)", "link(0, 0, 7)", "minor()", "major()", "ask()", "tell(5)", "load(4, 6, 1)", "years(3, 1)"};
+        for (String act : acts) {
+            calls.add(act);
+            rows(calls, "most", 0, 15);
+            for (int what = 0; what < 3; what++) {
+                calls.add("log(0, " + what + ")");
+                calls.add("log(1, " + what + ")");
+            }
+            calls.add("line(0, 0)");
+            calls.add("line(1, 0)");
+            calls.add("remembered(0, 0)");
+            calls.add("remembered(0, 1)");
+        }
+        return calls;
     }
 
     private static void rows(List<String> calls, String name, int first, int last) {
